@@ -290,6 +290,26 @@ public final class PromisesTest {
         due("8 takes", x.takes(2), 2);
         due("8 sayings", x.count(1), 0);
         due("8 none is left", x.takes(2), BAD);
+        takesOfAllThereCanBe();
+    }
+
+    private static void takesOfAllThereCanBe() {
+        TenseLines x = told("d;A<N;N<A;A=N;N=A;A<N;/d;/d;/d;/d;/d;/d;/u;H<G;");
+        x.keep(1);
+        String whole = face(x);
+        due("8 takes of fourteen", x.takes(2), 13);
+        due("8 last first", x.statement(12, 1), 16);
+        due("8 last sign", x.statement(12, 2), 0);
+        due("8 last second", x.statement(12, 3), 14);
+        due("8 last clause", x.clause(7, 2), 11);
+        due("8 taken sign", x.statement(2, 2), 1);
+        due("8 next sign", x.statement(3, 2), 1);
+        due("8 sign behind", x.statement(4, 2), 0);
+        x.undo();
+        same("8 undone whole", face(x), whole);
+        x.takes(13);
+        x.back(1);
+        same("8 back whole", face(x), whole);
     }
 
     private static void promise9Tenses() {
@@ -581,6 +601,7 @@ public final class PromisesTest {
         best("d;/d;/d;A<B;", 0, 2, 3);
         // A < B < C, D open to all: B halves best.
         best("d;/d;/d;/d;A<B;B<C;", 1, 3, 3);
+        best("d;/d;/d;/d;/d;/d;/d;/d;", 0, 1, 249271);
         best("d;=d;/d;", 0, 2, 1);
         best("d;+d;", NONE, NONE, NONE);
         best("d;", NONE, NONE, NONE);
