@@ -1,57 +1,8 @@
 /** Promises 1 to 25, each with ordinary inputs, the edges that the document names, and wrong inputs. */
-public final class PromisesTest {
-    private static final int BAD = -1, STATE = -2, FULL = -3, NONE = -9;
-    private static final int MIN = Integer.MIN_VALUE, MAX = Integer.MAX_VALUE;
-    private static int wrong = 0;
-
-    private static void due(String what, int got, int want) {
-        if (got != want) {
-            wrong++;
-            System.out.println(what + " answered " + got + ", due is " + want);
-        }
-    }
-
-    private static int read(TenseLines x, String text) {
-        x.clear();
-        for (int i = 0; i < text.length(); i++) {
-            x.type(text.charAt(i));
-        }
-        return x.reads();
-    }
-
-    private static TenseLines told(String text) {
-        TenseLines x = new TenseLines();
-        if (read(x, text) < 0) {
-            wrong++;
-            System.out.println("not read: " + text);
-        }
-        return x;
-    }
-
+public final class PromisesTest extends Checks {
     /** All that the face shows of what is told and kept count of, for "nothing changes". */
     private static String face(TenseLines x) {
-        StringBuilder all = new StringBuilder();
-        for (int what = 0; what <= 5; what++) {
-            all.append(x.count(what)).append(' ');
-        }
-        for (int k = 0; k < x.count(2); k++) {
-            for (int what = 0; what <= 3; what++) {
-                all.append(x.statement(k, what)).append(',');
-            }
-        }
-        for (int c = 0; c < x.count(0); c++) {
-            for (int what = 0; what <= 2; what++) {
-                all.append(x.clause(c, what)).append(';');
-            }
-        }
-        return all.append(x.unseen()).toString();
-    }
-
-    private static void same(String what, String got, String want) {
-        if (!got.equals(want)) {
-            wrong++;
-            System.out.println(what + ": is " + got + ", was " + want);
-        }
+        return counts(x) + shape(x) + x.unseen();
     }
 
     private static void promise1NewObject() {
@@ -752,31 +703,6 @@ public final class PromisesTest {
         }
     }
 
-    private static void askingChangesNothing() {
-        TenseLines x = told("d;A<N;/w;B<A;/u;");
-        x.says(6, 0, 2);
-        x.sees(2, 0, 1);
-        x.keep(0);
-        x.type('d');
-        String before = face(x);
-        for (int i = -1; i < 8; i++) {
-            x.sound();
-            x.clash(i);
-            x.line(i);
-            x.orders();
-            x.best(i);
-            x.unseen();
-            for (int j = -1; j < 8; j++) {
-                x.known(i, j);
-                x.would(i, j % 2, j);
-                x.left(i, j, 0);
-                x.clause(i, j);
-                x.statement(i, j);
-            }
-        }
-        same("what is asked changes nothing", face(x), before);
-    }
-
     public static void main(String[] args) {
         promise1NewObject();
         promise2Type();
@@ -803,10 +729,6 @@ public final class PromisesTest {
         promise23Keep();
         promise24Back();
         promise25Count();
-        askingChangesNothing();
-        System.out.println(wrong == 0 ? "all promises hold" : wrong + " answers are not as due");
-        if (wrong != 0) {
-            System.exit(1);
-        }
+        finish("all promises hold");
     }
 }
