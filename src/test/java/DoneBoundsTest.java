@@ -144,6 +144,9 @@ public final class DoneBoundsTest extends Checks {
         for (int n = 13; n >= 8; n--) {
             due("takes(8)", x.takes(8), n);
             due("SAYINGS", x.count(1), n - 8);
+            // F<G was told last, and stays last.
+            due("first TIME of the last", x.statement(n - 1, 1), n > 8 ? 12 : NONE);
+            due("second TIME of the last", x.statement(n - 1, 3), n > 8 ? 14 : NONE);
         }
         due("none is left", x.takes(8), BAD);
         due("a CLAUSE", x.takes(7), BAD);

@@ -9,6 +9,8 @@ public final class KnownBoundsTest extends Checks {
     private static final String EIGHT_AT_ONCE = "p;=p;=p;=p;=p;=p;=p;=p;";
     /** EVENT, LOOK, LOOK, EVENT, the next two CLAUSES and so on: sixteen TIMES in one row. */
     private static final String LONGEST = "h;+w;/h;+w;/h;+w;/h;+w;B<C;D<E;F<G;";
+    /** KNOWN of two EVENTS is 0, 1, 2 and 3 of some. */
+    private static final String WITH_ALL_KINDS = "d;=d;+h;/w;D<A;";
     private static final int[] LONGEST_ROW = {2, 1, 3, 4, 6, 5, 7, 8, 10, 9, 11, 12, 14, 13, 15, 16};
 
     private static int look(int c) {
@@ -54,6 +56,8 @@ public final class KnownBoundsTest extends Checks {
         clash("d;N<A;/d;A<B;B<A;", 0b00011);
         clash("d;/d;B=A;N<A;N<B;A<B;", 0b001001);
         clash("d;/d;/d;A<B;B<C;C<A;/d;D<A;A<D;", 0b110000000);
+        clash("d;/d;/d;/d;/d;A<B;B<C;C<A;D<E;E<D;", 0b1100000000);
+        clash("d;/d;/d;/d;/d;A<B;B<A;C<D;D<E;E<C;", 0b0001100000);
         clash("d;/d;/d;A<B;B<C;C<A;C=A;", 0b1100000);
         clash("d;/d;/d;A<B;B<C;C<B;C=A;", 0b0110000);
     }
@@ -137,6 +141,23 @@ public final class KnownBoundsTest extends Checks {
         }
     }
 
+    /** "A TENSE tells": of the EVENT and the LOOK of its own CLAUSE, and of NOW; the first and the last one. */
+    private static void eachTenseOfTheFirstAndTheLast() {
+        int[] eventToLook = {2, 1, 3, 2, 1, 3, 2, 1};
+        int[] lookToNow = {1, 1, 1, 2, 2, 2, 3, 3};
+        int[] eventToNow = {1, 1, 0, 2, 1, 3, 3, 0};
+        for (int c : new int[] {0, 7}) {
+            TenseLines x = told(EIGHT_OPEN);
+            for (int tense = 0; tense < 8; tense++) {
+                x.tenses(c, tense);
+                due("EVENT to LOOK of " + tense, x.known(event(c), look(c)), eventToLook[tense]);
+                due("LOOK to NOW of " + tense, x.known(look(c), 0), lookToNow[tense]);
+                due("EVENT to NOW of " + tense, x.known(event(c), 0), eventToNow[tense]);
+                due("another stays", x.known(event(3), 0), 1);
+            }
+        }
+    }
+
     /** "each TIME has a whole number, from 0 on": NOW alone, and the longest row there can be. */
     private static void fromZeroToSixteen() {
         due("line(0) without CLAUSES", new TenseLines().line(0), 0);
@@ -189,11 +210,11 @@ public final class KnownBoundsTest extends Checks {
 
     /** "0 .., 1 .., 2 they would not be SOUND": just as says() would have it, for all that can be said. */
     private static void wouldIsAsSaysHasIt() {
-        TenseLines x = told("d;+h;/w;C<A;");
-        for (int p = 0; p <= 6; p += 2) {
-            for (int q = 0; q <= 6; q += 2) {
+        TenseLines x = told(WITH_ALL_KINDS);
+        for (int p = 0; p <= 8; p += 2) {
+            for (int q = 0; q <= 8; q += 2) {
                 for (int sign = 0; sign <= 1 && p != q; sign++) {
-                    TenseLines y = told("d;+h;/w;C<A;");
+                    TenseLines y = told(WITH_ALL_KINDS);
                     boolean so = y.known(p, q) == 1 + sign;
                     y.says(p, sign, q);
                     int want = so ? 0 : y.sound() == 1 ? 1 : 2;
@@ -238,6 +259,19 @@ public final class KnownBoundsTest extends Checks {
         due("eight, one ahead of another", told(EIGHT_OPEN + "H<A;").orders(), 249271);
     }
 
+    /** Not SOUND by LOOKS and NOW alone: EVENTS could come in some order, but none is left. */
+    private static void notSoundByLooksAlone() {
+        TenseLines x = told("v;-v;/v;");
+        due("sound()", x.sound(), 0);
+        due("orders()", x.orders(), 0);
+        for (int answer = 0; answer <= 2; answer++) {
+            due("left(0, 2, " + answer + ")", x.left(0, 2, answer), 0);
+            due("best(" + answer + ")", x.best(answer), NONE);
+        }
+        due("known(2, 6)", x.known(2, 6), 4);
+        due("would(2, 0, 6)", x.would(2, 0, 6), 4);
+    }
+
     /** "(LOOKS and NOW are not looked at)". */
     private static void onlyEventsAreLookedAt() {
         due("an EVENT open to NOW", told("u;").orders(), 1);
@@ -272,9 +306,11 @@ public final class KnownBoundsTest extends Checks {
         int[][] want = {{all, 0, 0}, {0, all, 0}, {0, 0, all}};
         int[][] two = {{0, 1}, {1, 2}, {2, 0}};
         TenseLines not = told("d;/d;N<A;");
+        TenseLines one = told("d;+d;");
         for (int i = 0; i < 3; i++) {
             for (int answer = 0; answer < 3; answer++) {
                 due("left() of known " + i, x.left(two[i][0], two[i][1], answer), want[i][answer]);
+                due("left() of one ORDER", one.left(0, 1, answer), answer == 0 ? 1 : 0);
                 due("left() not SOUND", not.left(i % 2, 1 - i % 2, answer), 0);
             }
         }
@@ -430,6 +466,7 @@ public final class KnownBoundsTest extends Checks {
         fourOfAnyTwo();
         fromTheFirstToTheLastClause();
         aLinkTellsOfTwoLooks();
+        eachTenseOfTheFirstAndTheLast();
         fromZeroToSixteen();
         theLeastThatCanBe();
         noLineIfNotSound();
@@ -437,6 +474,7 @@ public final class KnownBoundsTest extends Checks {
         wouldIsNeverFull();
         wouldOfWhatIsNotSound();
         theLeastAndTheMostOrders();
+        notSoundByLooksAlone();
         onlyEventsAreLookedAt();
         threeAnswersMakeUpAll();
         leftOfWhatIsKnown();
