@@ -11,10 +11,8 @@ import java.util.Arrays;
 import java.util.List;
 import java.util.Set;
 import java.util.TreeSet;
-import java.util.regex.Matcher;
-import java.util.regex.Pattern;
 
-/** The face, and what of LANGUAGE.md can be read off the class and its file. */
+/** The face, the room, and what of LANGUAGE.md can be read off the class and its file (LanguageFaults). */
 public final class LanguageTest {
     private static final Path SOURCE = Path.of("src/main/java/TenseLines.java");
     private static final String[] FACE = {
@@ -51,69 +49,117 @@ public final class LanguageTest {
         Set<String> constants = new TreeSet<>();
         for (Field f : c.getDeclaredFields()) {
             if (!Modifier.isPrivate(f.getModifiers())) {
+                int fixed = Modifier.PUBLIC | Modifier.STATIC | Modifier.FINAL;
+                check(f.getModifiers() == fixed && f.getType() == int.class, "rule 1: " + f);
                 constants.add(f.getName());
             }
         }
         check(constants.equals(new TreeSet<>(Arrays.asList(CONSTANTS))), "rule 1: the constants are " + constants);
+        check(TenseLines.BAD == -1 && TenseLines.STATE == -2 && TenseLines.FULL == -3 && TenseLines.NONE == -9,
+            "the face: a constant's number");
     }
 
-    private static void classes() {
+    /** "No private method bears the name of a public one": in no class of the file. */
+    private static void names() {
         List<Class<?>> all = new ArrayList<>(Arrays.asList(TenseLines.class.getDeclaredClasses()));
-        check(all.size() <= 12, "rule 11: too many classes");
         all.add(TenseLines.class);
         Set<String> open = new TreeSet<>();
         for (String m : FACE) {
             open.add(m.substring(0, m.indexOf('(')));
         }
         for (Class<?> c : all) {
-            check(c == TenseLines.class || Modifier.isStatic(c.getModifiers()), "rule 2: not static: " + c);
-            int fields = 0;
-            for (Field f : c.getDeclaredFields()) {
-                fields += Modifier.isStatic(f.getModifiers()) ? 0 : 1;
-                check(!Modifier.isStatic(f.getModifiers()) || Modifier.isFinal(f.getModifiers()), "rule 5: " + f);
-            }
-            check(fields <= 20, "rule 11: fields of " + c);
             for (Method m : c.getDeclaredMethods()) {
-                check(m.getParameterCount() <= 7, "rule 11: parameters of " + m);
                 check(!Modifier.isPrivate(m.getModifiers()) || !open.contains(m.getName()), "rule 1: the name of " + m);
             }
         }
     }
 
-    private static void words(String code) {
-        for (String word : new String[] {"throw", "throws", "try", "catch", "finally", "synchronized", "assert", "package",
-            "hashCode", "protected", "Thread", "Object"}) {
-            check(!Pattern.compile("\\b" + word + "\\b").matcher(code).find(), "rules 3 to 6: the word " + word);
-        }
-        for (String line : code.split("\n")) {
-            boolean arm = line.matches("\\s*(case\\b.*|default\\s*)->.*");
-            check(arm || !line.contains("->") && !line.contains("::"), "rule 2: a lambda or a method reference: " + line);
-        }
-        check(!Pattern.compile("static\\s*\\{").matcher(code).find(), "rule 5: a static block");
-        only(code, "\\bimport\\s+([\\w.*]+)", Set.of("java.util.ArrayList", "java.util.List", "java.util.Arrays",
-            "java.util.Iterator"));
-        only(code, "\\bSystem\\.(\\w+)", Set.of("arraycopy"));
-        only(code, "\\bArrays\\.(\\w+)", Set.of("copyOf", "copyOfRange", "fill"));
-        only(code, "\\b(?:Math|Integer|Long)\\.(\\w*Exact)\\b", Set.of());
-    }
+    /** The reader must find what it is there for: each of these leaves the rule whose number it has. */
+    private static final String[][] BROKEN = {
+        {"1", "public static final class In { }"},
+        {"1", "} final class Second {"},
+        {"2", "final class In { }"},
+        {"2", "void f() { class In { } }"},
+        {"2", "void f() { Runnable r = () -> { }; }"},
+        {"2", "void f() { Runnable r = this::f; }"},
+        {"2", "abstract static class In { } In f() { return new In() { }; }"},
+        {"3", "private Object x;"},
+        {"3", "private String[] x;"},
+        {"3", "private boolean[][] x;"},
+        {"3", "private int[][][] x;"},
+        {"3", "private java.util.HashMap<Integer, Integer> x;"},
+        {"3", "Object f() { return null; }"},
+        {"3", "int f(java.util.Random r) { return 0; }"},
+        {"4", "long f() { return System.nanoTime(); }"},
+        {"4", "int f(int a) { return Math.addExact(a, 1); }"},
+        {"4", "int f(String s) { return s.hashCode(); }"},
+        {"4", "int f(String s) { return s.indexOf(s); }"},
+        {"4", "String f() { return Integer.toString(1); }"},
+        {"4", "void f(StringBuilder s) { s.append(1L); }"},
+        {"4", "void f() { System.out.println(); }"},
+        {"4", "void f(int[] a) { java.util.Arrays.sort(a); }"},
+        {"4", "int f() { return Integer.MAX_VALUE; }"},
+        {"4", "private static final String A = \"\\u00e9\";"},
+        {"5", "private static int x;"},
+        {"5", "private static final int[] X = new int[3];"},
+        {"5", "private static final double X = 1;"},
+        {"5", "private static final int[] X = {1}; void f() { X[0] = 2; }"},
+        {"5", "private static final int[] X = {1}; void f() { X[0]++; }"},
+        {"5", "private static final int[] X = {1}; void f() { X[0] |= 2; }"},
+        {"5", "static { }"},
+        {"6", "void f() { throw new IllegalStateException(); }"},
+        {"6", "void f() { try { f(); } finally { f(); } }"},
+        {"6", "void f() { synchronized (this) { } }"},
+        {"6", "void f(int a) { assert a > 0; }"},
+        {"6", "boolean f(String a, String b) { return a == b; }"},
+        {"6", "boolean f(Integer a, Integer b) { return a != b; }"},
+        {"6", "public String toString() { return null; }"},
+        {"6", "String f(Object a) { return (String) a; }"},
+        {"9", "void f() { while (true) { } }"},
+        {"9", "void f() { for (;;) { } }"},
+        {"9", "void f() { do { } while ((true)); }"},
+        {"10", "String f(String a) { return a + 1; }"},
+        {"10", "void f(String a) { a += 1; }"},
+        {"11", "void f(int a, int b, int c, int d, int e, int g, int h, int i) { }"},
+        {"11", "void f() {" + "\n".repeat(60) + "}"},
+        {"11", "int a, b, c, d, e, f, g, h, i, j, k, l, m, n, o, p, q, r, s, t, u;"},
+        {"11", "void a() { b(); } void b() { c(); } void c() { d(); } void d() { e(); } void e() { f(); }"
+            + " void f() { g(); } void g() { h(); } void h() { i(); } void i() { }"},
+        {"11", "private static class A { static class B { static class C { static class D { } } } }"
+            + " private static class E { static class F { static class G { static class H { } } } }"
+            + " private static class I { static class J { static class K { static class L { static class M { } } } } }"},
+        {"12", "static class In { In() { over(); } void over() { } }"},
+    };
 
-    private static void only(String code, String use, Set<String> listed) {
-        Matcher library = Pattern.compile(use).matcher(code);
-        while (library.find()) {
-            check(listed.contains(library.group(1)), "rule 4: " + library.group());
-        }
-    }
+    /** None of these leaves a rule. */
+    private static final String[] GOOD = {
+        "private static final int[] X = {1}; private final int[] y = new int[2]; void f() { y[0] = X[0]; }",
+        "private final int[][] x = new int[2][3]; private final java.util.ArrayList<Integer> y = new java.util.ArrayList<>();"
+            + " int f() { return y.isEmpty() ? x[0].length : y.get(0); }",
+        "static int f(int n) { return n <= 0 ? 0 : f(n - 1); } int g() { return Math.max(f(3), Integer.bitCount(9)); }",
+        "void a() { b(); } void b() { c(); } void c() { d(); } void d() { e(); } void e() { f(); }"
+            + " void f() { g(); } void g() { h(); } void h() { }",
+        "private interface Kind { int f(); } private static final class In implements Kind { public int f() { return 1; } }"
+            + " int g(Kind k) { return k instanceof In i ? i.f() : k == null ? 0 : ((In) k).f(); }",
+        "String f(String s) { StringBuilder b = new StringBuilder(); b.append(s.charAt(0)).append(s).append(3);"
+            + " return s.indexOf('a') < 0 ? s : b.toString(); }",
+        "int[] f(int[] a) { System.arraycopy(a, 0, a, 0, 0); java.util.Arrays.fill(a, 0); return a.clone(); }",
+        "private enum Way { UP, DOWN; private static final Way[] ALL = values(); } int f() { return Way.ALL.length; }",
+        "void f(int a, int b, int c, int d, int e, int g, int h) {" + "\n".repeat(59) + "}",
+    };
 
-    private static void lengths(String code) {
-        String[] lines = code.split("\n");
-        String method = "";
-        int began = 0;
-        for (int i = 0; i < lines.length; i++) {
-            if (lines[i].matches("( {4}| {8})[A-Za-z].*\\) \\{")) {
-                method = lines[i].trim();
-                began = i;
+    private static void theReaderFinds() throws Exception {
+        for (String[] broken : BROKEN) {
+            String rule = "rule " + broken[0] + ":";
+            boolean found = false;
+            for (String fault : LanguageFaults.of("T", "public final class T { " + broken[1] + " }")) {
+                found |= fault.startsWith(rule);
             }
-            check(i - began <= 60 || !lines[i].matches(" {8,}.*;") || method.isEmpty(), "rule 11: too long: " + method);
+            check(found, "the reader does not find, by " + rule + " " + broken[1]);
+        }
+        for (String good : GOOD) {
+            List<String> faults = LanguageFaults.of("T", "public final class T { " + good + " }");
+            check(faults.isEmpty(), "the reader finds " + faults + " in " + good);
         }
     }
 
@@ -146,13 +192,12 @@ public final class LanguageTest {
     }
 
     public static void main(String[] args) throws Exception {
-        String source = Files.readString(SOURCE);
-        String code = source.replaceAll("(?s)/\\*.*?\\*/", "").replaceAll("//[^\n]*", "");
-        check(code.chars().allMatch(letter -> letter > 0 && letter < 128), "rule 4: a sign");
         face();
-        classes();
-        words(code);
-        lengths(code);
+        names();
+        theReaderFinds();
+        for (String fault : LanguageFaults.of("TenseLines", Files.readString(SOURCE))) {
+            check(false, fault);
+        }
         room();
         System.out.println(wrong == 0 ? "the language is kept" : wrong + " faults of language");
         if (wrong != 0) {
